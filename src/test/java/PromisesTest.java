@@ -133,8 +133,10 @@ public final class PromisesTest {
 
         SecondSilence x = Due.in(ALL_KINDS);
         due("5 the page is empty then", x.count(5), 0);
-        x.choose(1, 3);
-        x.touch(0, 1, true);
+        for (int i = 0; i < 5; i++) {
+            x.choose(i, 3);
+            x.touch(i, (i + 1) % 5, true);
+        }
         x.hear(1, 3);
         x.rests(1, 0);
         Due.write(x, "c999,b111;8");
@@ -178,6 +180,16 @@ public final class PromisesTest {
         for (int what : new int[] {-1, 10, Integer.MIN_VALUE, Integer.MAX_VALUE}) {
             due("6 about(0, " + what + ")", x.about(0, what), OUTSIDE);
         }
+        x.choose(3, 1);
+        due("6 a gain right behind a choice", x.about(3, 8), 0);
+        x.choose(3, NONE);
+        due("6 a gain right behind another one", x.about(3, 8), -68);
+        x.choose(3, 1);
+        due("6 a price right behind a choice", x.about(3, 7), 90);
+        x.choose(3, NONE);
+        due("6 a stop right behind a choice", x.about(3, 5), 2);
+        x.choose(3, 1);
+        due("6 a silence right behind a choice", x.about(3, 6), 3);
         SecondSilence cheap = Due.in("b919,b810;9");
         due("6 a price is 0 at least", cheap.about(0, 7), 0);
         due("6 a gain by a price of 0", cheap.about(0, 8), 90);
@@ -339,6 +351,9 @@ public final class PromisesTest {
         // An echoer is second however he chooses.
         bestIs("where he can but lose", Due.in("b100,e990;0"), 1, 1, -90);
         bestIs("where he loses least at last", Due.in("b100,e990;2"), 1, 10, -72);
+        SecondSilence early = Due.in("b109,c909;5");
+        early.choose(0, 1);
+        bestIs("right behind the first", early, 1, 2, 90);
         SecondSilence below = Due.in("b190,b280,b999;0");
         below.choose(0, 1);
         below.touch(0, 1, true);
@@ -364,14 +379,15 @@ public final class PromisesTest {
         due("14 of no bidder", x.rests(2, 12), NONE);
         due("14 of no bidder", x.rests(2, 14), NONE);
         due("14 rests by 1", x.rests(1, 0), 1);
-        due("14 rests were done", x.count(7), 6);
+        due("14 the only one, of 0", x.rests(1, 10), 1);
+        due("14 rests were done", x.count(7), 7);
         due("14 choices stay", x.count(2), 0);
         due("14 rests(0, 0)", x.rests(0, 0), OUTSIDE);
         due("14 rests(5, 0)", x.rests(5, 0), OUTSIDE);
         for (int what : new int[] {-1, 1, 9, 15, Integer.MIN_VALUE, Integer.MAX_VALUE}) {
             due("14 rests(2, " + what + ")", x.rests(2, what), OUTSIDE);
         }
-        due("14 refused rests were not done", x.count(7), 6);
+        due("14 refused rests were not done", x.count(7), 7);
         due("14 rests without a hall", new SecondSilence().rests(1, 0), STATE);
         due("14 rests(0, 0) without a hall", new SecondSilence().rests(0, 0), OUTSIDE);
         SecondSilence five = Due.in("b999,b999,b999,b999,b999;0");

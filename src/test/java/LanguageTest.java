@@ -45,8 +45,8 @@ import javax.tools.StandardJavaFileManager;
 import javax.tools.ToolProvider;
 
 /**
- * The rules of ../shared/LANGUAGE.md that the compiler's tree of a source can show. Where the class needs less than a
- * rule allows, the test asks for the less: nothing is thrown or caught, nothing calls itself, every loop is a for.
+ * Parts of rules 1 to 6 and 8 to 11 of ../shared/LANGUAGE.md, by the compiler's tree of the source. Where the class needs
+ * less than a rule allows, the test asks for the less: nothing is thrown or caught, nothing calls itself, every loop is a for.
  */
 public final class LanguageTest {
     private static final Path PROGRAM = Path.of("src/main/java/SecondSilence.java");
